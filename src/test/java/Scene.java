@@ -1,0 +1,60 @@
+/** What tests tell often, in few words. */
+final class Scene {
+    static final int SHORTS = 0, INTS = 1, FLOATS = 2, DOUBLES = 3, TRUTHS = 4;
+    static final int TARGET = 0, LEFT = 1, RIGHT = 2;
+    static final int NULL = -11, INDEX = -12, CAST = -13, STORE = -14, SIZE = -15;
+    static final int LEAST = Integer.MIN_VALUE;
+
+    final StrideTurns x = new StrideTurns();
+
+    /** A row with cells that are put one behind another. */
+    Scene row(int r, int form, int n, int... cells) {
+        x.row(r, form, n);
+        for (int i = 0; i < cells.length; i++) {
+            x.put(r, form, i, cells[i]);
+        }
+        return this;
+    }
+
+    Scene turns(int n) {
+        x.turns(n);
+        return this;
+    }
+
+    void type(String name) {
+        for (int i = 0; i < name.length(); i++) {
+            x.type(name.charAt(i));
+        }
+    }
+
+    int state(String name, int count) {
+        type(name);
+        return x.statement(count);
+    }
+
+    /** A statement; each reference as row, from, by, step. */
+    int tell(String name, int count, int[] target, int[] left, int[] right) {
+        int k = state(name, count);
+        refer(k, TARGET, target);
+        refer(k, LEFT, left);
+        refer(k, RIGHT, right);
+        return k;
+    }
+
+    void refer(int k, int which, int... told) {
+        x.refer(k, which, told[0]);
+        x.place(k, which, told[1], told[2], told[3]);
+    }
+
+    static int[] at(int row, int from, int by, int step) {
+        return new int[] {row, from, by, step};
+    }
+
+    static int[] constant(int value) {
+        return new int[] {StrideTurns.NONE, value, 0, 0};
+    }
+
+    static long refused(int answer) {
+        return Long.MIN_VALUE - answer;
+    }
+}
