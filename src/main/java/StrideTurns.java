@@ -648,7 +648,6 @@ public final class StrideTurns {
             for (int r = 0; r < ROWS; r++) {
                 forms[r] = NONE;
             }
-            forgetWriters();
         }
 
         /** A row of form NONE is missing. */

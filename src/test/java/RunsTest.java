@@ -5,22 +5,29 @@ public final class RunsTest {
     public static void main(String[] args) {
         runInOrder();
         runReadsWhatItWrote();
+        runDoesTurnsOneBehindAnother();
+        mostItems();
         faultsInTheirOrder();
         overEndsATurn();
         maskedTurns();
         pickWrites();
         deals();
         dealByShares();
+        dealByEvenShares();
         seeds();
         stepsOfFaults();
+        turnsBehindFaults();
         copiedRows();
         copiedTurnsThatPick();
         gatheredRows();
         serialRows();
+        runBehindAMixedOne();
+        mixedKnowsWhatWasTold();
         mixedRefused();
         same();
         sameLeavesNothing();
         sameLooksAtAll();
+        sameInEachRow();
         faults();
         ended();
         writer();
@@ -28,6 +35,9 @@ public final class RunsTest {
         count();
         digest();
         digestTellsAll();
+        digestOfReferences();
+        digestOfFaults();
+        digestOfPicks();
         Check.end();
     }
 
@@ -78,6 +88,31 @@ public final class RunsTest {
         Check.due(29, "run()", s.x.run(), 7);
         cells(29, s, 0, 1, 1, 2, 3, 5, 8, 13, 21, 34);
         writers(34, s, 0, -1, -1, 0, 1, 2, 3, 4, 5, 6);
+    }
+
+    private static void runDoesTurnsOneBehindAnother() {
+        // the second item of a turn writes what the first one of the next turn reads
+        Scene s = new Scene().row(0, 1, 9, 1).turns(4);
+        s.tell("add", 2, Scene.at(0, 1, 2, 1), Scene.at(0, 0, 2, 1), Scene.constant(1));
+        Check.due(29, "run()", s.x.run(), 8);
+        cells(29, s, 0, 1, 2, 3, 4, 5, 6, 7, 8, 9);
+        writers(34, s, 0, -1, 0, 0, 1, 1, 2, 2, 3, 3);
+    }
+
+    private static void mostItems() {
+        Scene s = new Scene().turns(10);
+        for (int k = 0; k < 5; k++) {
+            s.row(k, 1, 24);
+            s.tell("add", 5, Scene.at(k, 0, 0, 1), Scene.at(k, 0, 0, 1), Scene.constant(k + 1));
+        }
+        Check.due(29, "all items", s.x.run(), 250);
+        cells(29, s, 4, 50, 50, 50, 50, 50, 0);
+        Check.due(30, "all items, mixed", s.x.mixed(4, 2, 50, 0), 250);
+        cells(30, s, 4, 100, 100, 100, 100, 100, 0);
+        Check.due(31, "all items, the same", s.x.same(3, 1, 50, 0), 1);
+        for (int p = 0; p < 10; p++) {
+            Check.holds("all turns have ended", s.x.ended(p) >= 0);
+        }
     }
 
     private static void faultsInTheirOrder() {
@@ -196,6 +231,20 @@ public final class RunsTest {
         endings(30, s, 6, 3, 0, 9, 1, 7, 8, 4, 2, 5);
     }
 
+    private static void dealByEvenShares() {
+        Scene s = singles(6);
+        // seeds 0 7 34 1 20 5: of workers 0 (0 1), 1 (2 3), 2 (4 5): 0 1 1, then of 0 and 2: 2 0, then 2
+        s.x.mixed(3, 1, 0, 0);
+        endings(30, s, 0, 2, 3, 4, 1, 5);
+        s = singles(3);
+        // seeds 2 33 52: of workers 0, 1, 2 the last, of 0, 1 the last, then 0
+        s.x.mixed(3, 1, 2, 0);
+        endings(30, s, 2, 1, 0);
+        s = singles(2);
+        s.x.mixed(4, 1, 1, 0);
+        endings(30, s, 1, 0);
+    }
+
     private static void seeds() {
         Scene s = singles(8);
         for (int seed = 0; seed < 64; seed++) {
@@ -228,6 +277,19 @@ public final class RunsTest {
         cells(30, s, 0, 3, 3, 3, 3);
         cells(30, s, 1, 4, 4, 4, 0);
         Check.due(35, "items", s.x.count(6), 10);
+    }
+
+    private static void turnsBehindFaults() {
+        // turns 0, 2, 4 end at their second item, which has no left; 1 and 3 are done whole
+        Scene s = new Scene().row(0, 1, 2, 5, 6).row(1, 1, 9).row(5, 4, 5, 1, 0, 1, 0, 1).turns(5);
+        s.tell("copy", 2, Scene.at(1, 0, 0, 0), Scene.at(0, 1, 0, 6), Scene.constant(0));
+        s.tell("copy", 3, Scene.at(1, 0, 2, 1), Scene.constant(8), Scene.constant(0));
+        s.x.mask(0, 5);
+        Check.due(29, "run()", s.x.run(), 3 + 2 * 3);
+        faulted(32, s, 0, 3, 0);
+        endings(33, s, 0, 1, 2, 3, 4);
+        cells(29, s, 1, 6, 0, 8, 8, 8, 0, 8, 8, 8);
+        writers(34, s, 1, 4, -1, 1, 1, 1, -1, 3, 3, 3);
     }
 
     private static void copiedRows() {
@@ -294,6 +356,42 @@ public final class RunsTest {
         writers(34, s, 0, 0);                  // the last that wrote it, not the greatest
     }
 
+    private static void runBehindAMixedOne() {
+        Scene s = new Scene().row(5, 1, 9, 4).turns(3);
+        s.tell("copy", 1, Scene.at(5, 0, 0, 0), Scene.constant(7), Scene.constant(0));
+        Check.due(30, "a copied row", s.x.verdict(5), 3);
+        s.x.mixed(2, 0, 0, 0);
+        cells(30, s, 5, 7, 0);
+        writers(34, s, 5, 2, -1);
+        s.x.undo();
+        s.x.undo();
+        s.x.undo();
+        s.x.undo();
+        s.x.undo();
+        s.x.undo();
+        s.x.undo();
+        s.tell("add", 1, Scene.at(5, 1, 1, 0), Scene.at(5, 0, 1, 0), Scene.constant(1));
+        Check.due(29, "run()", s.x.run(), 3);
+        cells(29, s, 5, 7, 8, 9, 10, 0);
+        writers(34, s, 5, -1, 0, 1, 2, -1);
+    }
+
+    /** Nothing is asked ahead of the run, so that what was known ahead is not what was told last. */
+    private static void mixedKnowsWhatWasTold() {
+        Scene s = new Scene().row(5, 1, 9, 4).turns(3);
+        s.tell("copy", 1, Scene.at(5, 0, 0, 0), Scene.constant(7), Scene.constant(0));
+        s.x.verdict(5);
+        s.x.place(0, Scene.TARGET, 1, 1, 0);
+        s.x.refer(0, Scene.LEFT, 5);
+        s.x.place(0, Scene.LEFT, 0, 1, 0);
+        s.x.mixed(1, 0, 0, 1);
+        cells(30, s, 5, 4, 4, 4, 4, 0);
+        s.x.refer(0, Scene.LEFT, -1);
+        s.x.place(0, Scene.TARGET, 0, 0, 0);
+        s.x.place(0, Scene.LEFT, 9, 0, 0);
+        Check.due(31, "same()", s.x.same(3, 2, 8, 1), 1);
+    }
+
     private static void mixedRefused() {
         Scene s = singles(3);
         s.x.run();
@@ -355,6 +453,25 @@ public final class RunsTest {
         cells(31, s, 0, 0, 1);
     }
 
+    private static void sameInEachRow() {
+        for (int r = 0; r < 6; r++) {
+            // backwards cell 0 has what turn 0 copied; all else is the same
+            Scene s = new Scene().row(r, 1, 24, 1).turns(2);
+            s.tell("add", 1, Scene.at(r, 0, 0, 0), Scene.at(r, 0, 0, 0), Scene.constant(1));
+            s.tell("mul", 1, Scene.at(r, 0, 0, 0), Scene.at(r, 0, 0, 0), Scene.constant(3));
+            s.x.guard(0, 2, 0);
+            s.x.guard(1, 2, 1);
+            Check.due(31, "in row " + r, s.x.same(1, 2, 0, 1), 0);
+            s.x.place(1, Scene.RIGHT, 1, 0, 0);
+            Check.due(31, "the same in row " + r, s.x.same(1, 2, 0, 1), 1);
+            s.x.run();
+            writers(34, s, r, 1, -1);
+            s.turns(0);
+            s.x.run();
+            writers(34, s, r, -1, -1);
+        }
+    }
+
     private static void faults() {
         Scene s = singles(5);
         faulted(32, s, 0, 0, 0);
@@ -365,6 +482,10 @@ public final class RunsTest {
         faulted(32, s, 0, 3, 0);
         s.x.run();
         faulted(32, s, 5, 0, 0);
+        s.x.row(0, 1, 24);
+        faulted(32, s, 5, 0, 0);
+        s.x.run();
+        faulted(32, s, 0, 0, 0);
         for (int kind : new int[] {-1, 3, MIN, MAX}) {
             Check.due(32, "faults(" + kind + ")", s.x.faults(kind), -2);
         }
@@ -497,5 +618,57 @@ public final class RunsTest {
         s.row(0, 1, 24, 1, 1, 1, 1);
         s.x.run();
         Check.holds("a run more on a new row", s.x.digest() != before);
+    }
+
+    private static void digestOfReferences() {
+        // without turns no sections; with one turn there are
+        for (int turns = 0; turns <= 1; turns++) {
+            Scene s = new Scene().turns(turns);
+            s.state("copy", 2);
+            s.x.place(0, Scene.TARGET, 9, 0, 2);
+            long h = with(17, turns, 1, 3, 0, 1, 0, 0, 6);
+            h = with(h, 9, 2, 1, 0, -1, 0, turns, 0, 9, 0, 2);
+            h = turns == 0 ? h : with(h, 9, 2, 2);
+            h = with(h, -1, 0, 0, 0, -1, 0, 0, 0, turns, 0, 0, 0, 0, 0);
+            for (int r = 0; r < 6; r++) {
+                h = with(h, 0, -1, -1, -1);
+                for (int set = 0; set < 4; set++) {
+                    h = turns == 0 ? with(h, 0, 0) : with(h, 0, 0, 0);
+                }
+            }
+            h = with(h, 0, 0, 0, -1, -1, -1, -1, -1, -1, -1, -1, -1, -1);
+            Check.due(36, "digest() of a missing target", s.x.digest(), h);
+        }
+    }
+
+    private static void digestOfFaults() {
+        Scene s = new Scene().turns(3);
+        s.state("copy", 1);
+        s.x.run();
+        long h = with(17, 3, 1, 2, 0, 1, 0, 0, 6);
+        h = with(h, 9, 1, 1, 0, -1, 0, 3, 0, 0, 0, 0, 0, 1, 1, -1, 0, 0, 0, -1, 0, 0, 0, 1, 0, 0, 0, 0, 0);
+        for (int r = 0; r < 6; r++) {
+            h = with(h, 0, -1, -1, -1);
+            h = with(with(h, 0, 0, 0, 0, 0, 0, 0, 0, 0, 0), 0, 0, 0, 0, 0, 0, 0, 0, 0, 0);
+        }
+        h = with(h, 3, 0, 0, 0, 1, 2, -1, -1, -1, -1, -1, -1, -1);
+        Check.due(36, "digest() of faults", s.x.digest(), h);
+    }
+
+    private static void digestOfPicks() {
+        Scene s = new Scene().row(3, 4, 1, 1).row(5, 2, 1, 12).turns(1);
+        s.state("pick", 1);
+        s.x.refer(0, Scene.TARGET, 5);
+        long h = with(17, 1, 1, 3, 0, 1, 0, 0, 4);
+        h = with(h, 10, 1, 1, 0, -1, 0, 1, 5, 0, 0, 0, 0, 1, 1, -1, 0, 0, 0, -1, 0, 0, 0, 0, 0, 0, 0, 0, 1);
+        for (int r = 0; r < 6; r++) {
+            h = with(h, r == 5 ? 1 : 0, -1, -1, -1, 0, 0, 0);
+            h = r == 5 ? with(h, 1, 1, 1) : with(h, 0, 0, 0);
+            h = with(h, 0, 0, 0, 0, 0, 0);
+        }
+        h = with(h, 1, -1, -1, -1);
+        h = with(h, Float.floatToIntBits(1.5f), -1, 0, -1);
+        h = with(h, 0, 0, 0, -1, -1, -1, -1, -1, -1, -1, -1, -1, -1);
+        Check.due(36, "digest() of a pick", s.x.digest(), h);
     }
 }

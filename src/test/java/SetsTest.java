@@ -22,6 +22,7 @@ public final class SetsTest {
         would();
         wouldRefused();
         witness();
+        witnessesAmongOthers();
         last();
         Check.end();
     }
@@ -436,6 +437,21 @@ public final class SetsTest {
         for (int[] b : bad) {
             Check.due(27, "witness(" + b[0] + ", " + b[1] + ")", s.x.witness(b[0], b[1]), -2);
         }
+    }
+
+    private static void witnessesAmongOthers() {
+        // turn 1 exposes 0, that no turn writes, 2, that it writes itself, and 5, that turn 0 may write
+        Scene s = new Scene().row(3, 1, 24).row(4, 1, 24).turns(2);
+        s.tell("add", 2, Scene.at(4, 0, 0, 0), Scene.at(3, 0, 2, 0), Scene.at(3, 0, 0, 0));
+        s.tell("add", 1, Scene.at(3, 2, 0, 0), Scene.at(3, 5, 0, 0), Scene.constant(0));
+        s.tell("pick", 1, Scene.at(3, 5, 0, 0), Scene.constant(1), Scene.constant(0));
+        s.x.guard(0, 2, 1);
+        s.x.guard(1, 2, 1);
+        s.x.guard(2, 2, 0);
+        witness(s, 3, 0, 1, 5);
+        witness(s, 4, -1, -1, -1);
+        s.row(0, 1, 24).x.refer(2, Scene.TARGET, 0);
+        witness(s, 3, -1, -1, -1);
     }
 
     private static void last() {
