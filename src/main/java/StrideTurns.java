@@ -29,7 +29,7 @@ public final class StrideTurns {
     private final History history = new History();
     private final int[] text = new int[TEXT];
     private final Summary summary = new Summary(rows, loop);
-    private final Kinds sorts = new Kinds();
+    private final Kinds unlike = new Kinds();
     private final Section one = new Section();
     private final Section other = new Section();
     private final Section both = new Section();
@@ -287,19 +287,19 @@ public final class StrideTurns {
         if (!isStatement(k) || !isRow(r)) {
             return BAD;
         }
-        sorts.sort(loop, rows, loop.statements[k], r);
-        return sorts.found;
+        unlike.collect(loop, rows, loop.statements[k], r);
+        return unlike.found;
     }
 
     public int kind(int k, int r, int n, int part) {
         if (!isStatement(k) || !isRow(r)) {
             return LEAST;
         }
-        sorts.sort(loop, rows, loop.statements[k], r);
-        if (!within(n, 0, sorts.found - 1)) {
+        unlike.collect(loop, rows, loop.statements[k], r);
+        if (!within(n, 0, unlike.found - 1)) {
             return LEAST;
         }
-        return part == 3 ? sorts.often[n] : sorts.sections[n].part(part, LEAST);
+        return part == 3 ? unlike.often[n] : unlike.sections[n].part(part, LEAST);
     }
 
     // ---- sets
@@ -964,9 +964,11 @@ public final class StrideTurns {
             int left = cells & ~(1 << first);
             stride = left == 0 ? 1 : leastCell(left) - first;
             left = cells;
-            for (int place = first; place < CELLS && (left >> place & 1) != 0; place += stride) {
+            int place = first;
+            for (int n = 0; n < CELLS && place < CELLS && (left >> place & 1) != 0; n++) {
                 left &= ~(1 << place);
                 length++;
+                place += stride;
             }
             return left;
         }
@@ -994,7 +996,7 @@ public final class StrideTurns {
             }
         }
 
-        void sort(Loop loop, Rows rows, Statement told, int r) {
+        void collect(Loop loop, Rows rows, Statement told, int r) {
             found = 0;
             if (!told.looksAtRow(r)) {
                 return;

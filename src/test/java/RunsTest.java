@@ -357,23 +357,33 @@ public final class RunsTest {
     }
 
     private static void runBehindAMixedOne() {
-        Scene s = new Scene().row(5, 1, 9, 4).turns(3);
-        s.tell("copy", 1, Scene.at(5, 0, 0, 0), Scene.constant(7), Scene.constant(0));
-        Check.due(30, "a copied row", s.x.verdict(5), 3);
+        for (int r = 0; r < 6; r++) {
+            Scene s = copiedBefore(r);
+            Check.due(29, "run()", s.x.run(), 3);
+            cells(29, s, r, 7, 8, 9, 10, 0);
+            writers(34, s, r, -1, 0, 1, 2, -1);
+            s = copiedBefore(r);
+            Check.due(31, "same() in order", s.x.same(1, 0, 0, 1), 1);
+            Check.due(31, "same() backwards", s.x.same(1, 2, 0, 1), 0);
+            s = copiedBefore(r);
+            Check.due(30, "mixed()", s.x.mixed(1, 2, 0, 1), 3);
+            cells(30, s, r, 7, 8, 1, 1, 0);
+        }
+    }
+
+    /** A loop that is serial, told behind a mixed run in which its row was copied. */
+    private static Scene copiedBefore(int r) {
+        Scene s = new Scene().row(r, 1, 9, 4).turns(3);
+        s.tell("copy", 1, Scene.at(r, 0, 0, 0), Scene.constant(7), Scene.constant(0));
+        Check.due(30, "a copied row", s.x.verdict(r), 3);
         s.x.mixed(2, 0, 0, 0);
-        cells(30, s, 5, 7, 0);
-        writers(34, s, 5, 2, -1);
-        s.x.undo();
-        s.x.undo();
-        s.x.undo();
-        s.x.undo();
-        s.x.undo();
-        s.x.undo();
-        s.x.undo();
-        s.tell("add", 1, Scene.at(5, 1, 1, 0), Scene.at(5, 0, 1, 0), Scene.constant(1));
-        Check.due(29, "run()", s.x.run(), 3);
-        cells(29, s, 5, 7, 8, 9, 10, 0);
-        writers(34, s, 5, -1, 0, 1, 2, -1);
+        cells(30, s, r, 7, 0);
+        writers(34, s, r, 2, -1);
+        for (int told = 0; told < 7; told++) {
+            s.x.undo();
+        }
+        s.tell("add", 1, Scene.at(r, 1, 1, 0), Scene.at(r, 0, 1, 0), Scene.constant(1));
+        return s;
     }
 
     /** Nothing is asked ahead of the run, so that what was known ahead is not what was told last. */
@@ -579,6 +589,11 @@ public final class RunsTest {
         }
         h = with(h, 0, 0, 0, -1, -1, -1, -1, -1, -1, -1, -1, -1, -1);
         Check.due(36, "digest() of a new object", new StrideTurns().digest(), h);
+
+        StrideTurns lost = new StrideTurns();
+        lost.row(3, 1, 8);
+        lost.lose(3);
+        Check.due(36, "digest() with a row that is lost", lost.digest(), h);
 
         Scene s = new Scene().row(2, 1, 3, 5, 6, 7).turns(2);
         s.tell("add", 1, Scene.at(2, 0, 1, 0), Scene.at(2, 0, 2, 0), Scene.constant(9));

@@ -11,6 +11,7 @@ public final class SetsTest {
         exposed();
         ofTruths();
         setsFollowChanges();
+        setsFollowTurnsAndMasks();
         setRefused();
         pieces();
         piecesInOrder();
@@ -194,6 +195,22 @@ public final class SetsTest {
         cells(22, s, WRITTEN, 0, 2, 3);
         s.state("add", 1);
         cells(22, s, WRITTEN, 0, 2, 0, 3);
+    }
+
+    private static void setsFollowTurnsAndMasks() {
+        Scene s = new Scene().row(0, 1, 9).row(3, 4, 3, 1, 0, 1).turns(1);
+        s.tell("add", 1, Scene.at(0, 0, 2, 0), Scene.constant(0), Scene.constant(0));
+        cells(22, s, WRITTEN, 0, -1, 0);
+        s.turns(3);
+        cells(22, s, WRITTEN, 0, -1, 0, 2, 4);
+        s.x.mask(0, 3);
+        cells(22, s, WRITTEN, 0, -1, 0, 4);
+        s.x.lose(3);
+        cells(22, s, WRITTEN, 0, -1);
+        s.x.mask(0, -1);
+        cells(22, s, WRITTEN, 0, -1, 0, 2, 4);
+        s.x.lose(0);
+        cells(22, s, WRITTEN, 0, -1);
     }
 
     private static void setRefused() {
