@@ -9,15 +9,15 @@ final class Scene {
 
     /** A row with cells that are put one behind another. */
     Scene row(int r, int form, int n, int... cells) {
-        x.row(r, form, n);
+        taken(x.row(r, form, n));
         for (int i = 0; i < cells.length; i++) {
-            x.put(r, form, i, cells[i]);
+            taken(x.put(r, form, i, cells[i]));
         }
         return this;
     }
 
     Scene turns(int n) {
-        x.turns(n);
+        taken(x.turns(n));
         return this;
     }
 
@@ -42,8 +42,15 @@ final class Scene {
     }
 
     void refer(int k, int which, int... told) {
-        x.refer(k, which, told[0]);
-        x.place(k, which, told[1], told[2], told[3]);
+        taken(x.refer(k, which, told[0]));
+        taken(x.place(k, which, told[1], told[2], told[3]));
+    }
+
+    /** So that no test goes on with another loop than the one it means. */
+    private static void taken(int answer) {
+        if (answer < StrideTurns.NONE) {
+            throw new IllegalArgumentException("what a test tells is refused: " + answer);
+        }
     }
 
     static int[] at(int row, int from, int by, int step) {
@@ -56,5 +63,10 @@ final class Scene {
 
     static long refused(int answer) {
         return Long.MIN_VALUE - answer;
+    }
+
+    /** Numbers beyond both ends of a range: the nearest ones and the farthest. */
+    static int[] beyond(int least, int most) {
+        return new int[] {Integer.MIN_VALUE, least - 1, most + 1, Integer.MAX_VALUE};
     }
 }
