@@ -34,6 +34,8 @@ public final class EdgesItemsTest {
         castToShorts();
         castToTheTarget();
         tooSmallForAFloat();
+        leastFloats();
+        leastDoubles();
         Check.end();
     }
 
@@ -88,6 +90,13 @@ public final class EdgesItemsTest {
             faulted(s, "fates " + fates, due);
             Check.due("get(0, 0)", s.x.get(0, 0), due == FINE ? 9 : 0);
             Check.due("right is not read", s.x.many(0, 2, 0), 0);
+        }
+        // however far outside of all rows
+        for (int r = 0; r < 6; r += 5) {
+            Scene s = new Scene().row(r, 1, 24).row(1, 1, 1, 9).turns(10);
+            s.tell("copy", 5, Scene.at(1, 0, 0, 0), Scene.at(1, 0, 0, 0), Scene.at(r, r == 0 ? -60 : 60, r == 0 ? -6 : 6, r == 0 ? -6 : 6));
+            Check.due("run()", s.x.run(), 50);
+            Check.due("mixed()", s.x.mixed(4, 2, 5, 1), 50);
         }
     }
 
@@ -493,5 +502,50 @@ public final class EdgesItemsTest {
         Check.due("the double", s.x.get(0, 0), Double.doubleToLongBits(-0.125 / (1L << 50) / (1L << 50) / (1L << 50)));
         Check.due("cast to a float", s.x.get(1, 0), 0);
         Check.due("what comes of floats", s.x.get(2, 0), 0);
+    }
+
+    /** A loop that divides a cell by eight, told by an eighth. */
+    private static Scene lessening(int form, int cell) {
+        Scene s = new Scene().row(0, form, 1, cell).row(1, form, 1, 1).turns(1);
+        s.tell("mul", 1, Scene.at(0, 0, 0, 0), Scene.at(0, 0, 0, 0), Scene.at(1, 0, 0, 0));
+        return s;
+    }
+
+    private static void leastFloats() {
+        Check.sentence("the bits of a float as an int");
+        for (int cell : new int[] {1, -1, 5, -7, 16777215}) {
+            Scene s = lessening(2, cell);
+            float due = cell / 8f;
+            for (int run = 0; run < 62; run++) {
+                Check.due(cell + " by eight, " + run + " times", s.x.get(0, 0), Float.floatToIntBits(due));
+                s.x.run();
+                due = due / 8 % 1024 + 0f;
+            }
+            Check.due("0 in the end", s.x.get(0, 0), 0);
+        }
+    }
+
+    private static void leastDoubles() {
+        Check.sentence("of a double as a long");
+        for (int cell : new int[] {1, -5, MAX}) {
+            Scene s = lessening(3, cell);
+            s.turns(10);
+            double due = cell / 8d;
+            for (int run = 0; run < 40; run++) {
+                Check.due(cell + " by eight, " + 10 * run + " times", s.x.get(0, 0), Double.doubleToLongBits(due));
+                // near the least doubles each step is looked at
+                s.x.turns(run < 33 ? 10 : 1);
+                s.x.run();
+                for (int turn = 0; turn < (run < 33 ? 10 : 1); turn++) {
+                    due = due / 8 % 1024 + 0d;
+                }
+            }
+            for (int run = 0; run < 30; run++) {
+                s.x.run();
+                due = due / 8 % 1024 + 0d;
+                Check.due("one more", s.x.get(0, 0), Double.doubleToLongBits(due));
+            }
+            Check.due("0 in the end", s.x.get(0, 0), 0);
+        }
     }
 }

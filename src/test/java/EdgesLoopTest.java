@@ -32,11 +32,13 @@ public final class EdgesLoopTest {
         phaseBelowItsPeriod();
         maskedBefore();
         undone();
+        undoneToWhatWasTold();
         undoneOneBehindAnother();
         undoneStatement();
         nothingToUndo();
         latestTwenty();
         toldAndUndone();
+        toldThoughTheSame();
         whatIsNotTold();
         infoOfANewOne();
         turnsDone();
@@ -497,6 +499,41 @@ public final class EdgesLoopTest {
         Check.due("count(0)", s.x.count(0), 0);
     }
 
+    /** One of the six acts that may be undone, of a statement and a reference; told again it tells something else. */
+    private static int tell(Scene s, int act, int k, int which, int time) {
+        switch (act) {
+            case 0: return s.x.turns(3 + k + time);
+            case 1: return s.state("sub", 1 + k + time);
+            case 2: return s.x.refer(k, which, 5 - which - time);
+            case 3: return s.x.place(k, which, 7 + time, which + 1, k - 5);
+            case 4: return s.x.guard(k, 6, 2 * k + time + 1);
+            default: return s.x.mask(k, 4 - time);
+        }
+    }
+
+    private static void undoneToWhatWasTold() {
+        Check.sentence("What was told last is UNDONE");
+        for (int n = 0; n < 36; n++) {
+            int act = n % 6;
+            int k = n / 6 % 2;
+            int which = n / 12;
+            Scene s = new Scene().row(0, 1, 24).row(1, 1, 24).row(2, 1, 24).row(3, 4, 10, 1, 1, 0, 1, 0, 1, 1, 1);
+            s.turns(which == 2 ? 0 : 9);
+            s.tell("add", 2, Scene.at(0, 3, 1, 1), Scene.at(1, 5, 1, -1), Scene.at(2, 9, -1, 2));
+            s.tell("max", 3, Scene.at(1, 1, 1, 1), Scene.at(2, 8, 1, -1), Scene.at(0, 9, -1, 3));
+            s.x.guard(k, 3, 1);
+            for (int time = 0; time < 2; time++) {
+                // all else stays, as it was at first or as it was told ahead
+                long before = s.x.digest();
+                tell(s, act, k, which, time);
+                Check.holds("it is told", s.x.digest() != before);
+                Check.due("undo()", s.x.undo(), act);
+                Check.due("digest() behind act " + act + " of " + k + ", " + which + " undone", s.x.digest(), before);
+                tell(s, act, k, which, 0);
+            }
+        }
+    }
+
     private static void undoneOneBehindAnother() {
         Check.sentence("UNDONE may be what was told last of THE LOOP (turns(), statement(), refer(), place(), guard(), mask()), "
                 + "one behind another");
@@ -541,9 +578,13 @@ public final class EdgesLoopTest {
         Scene s = new Scene();
         Check.due("undo() of a new object", s.x.undo(), StrideTurns.NOT);
         s.turns(3);
+        s.type("xor");
         Check.due("undo()", s.x.undo(), 0);
+        long before = s.x.digest();
         Check.due("undo() once more", s.x.undo(), StrideTurns.NOT);
+        Check.due("digest()", s.x.digest(), before);
         Check.due("count(2)", s.x.count(2), 0);
+        Check.due("the text is still there", s.x.count(3), 3);
         Check.due("count(0)", s.x.count(0), 0);
     }
 
@@ -589,6 +630,24 @@ public final class EdgesLoopTest {
                 Check.due("count(2)", x.count(2), told - oldest);
             }
         }
+    }
+
+    private static void toldThoughTheSame() {
+        Check.sentence("UNDONE may be what was told last of THE LOOP");
+        Scene s = new Scene();
+        Check.due("turns(0) of none", s.x.turns(0), 0);
+        s.state("add", 1);
+        s.x.refer(0, Scene.TARGET, 0);
+        s.x.refer(0, Scene.LEFT, StrideTurns.NONE);
+        s.x.place(0, Scene.RIGHT, 0, 0, 0);
+        s.x.guard(0, 1, 0);
+        s.x.mask(0, StrideTurns.NONE);
+        int[] acts = {5, 4, 3, 2, 2, 1, 0};
+        Check.due("count(2)", s.x.count(2), acts.length);
+        for (int act : acts) {
+            Check.due("undo() of what changed nothing", s.x.undo(), act);
+        }
+        Check.due("count(2)", s.x.count(2), 0);
     }
 
     private static void whatIsNotTold() {

@@ -27,6 +27,8 @@ public final class EdgesMixedTest {
         copiedWithAPickThatDoesNot();
         copiedByTheGreatest();
         copiedLast();
+        copiedInEachRow();
+        gatheredInEachRow();
         copiedThoughEnded();
         gatheredInAnyOrder();
         gatheredWraps();
@@ -377,8 +379,8 @@ public final class EdgesMixedTest {
 
     private static void copiedByTheGreatest() {
         Check.sentence("in the end a CELL has what the greatest of TURNS that wrote it wrote there last");
-        int[] given = {5, 9, 2, 8, 1, 7, 3, 0, 4, 0};
-        for (int least = -1; least <= 9; least++) {
+        int[] given = {10, 9, 2, 8, 1, 7, 3, 0, 4, 0};
+        for (int least = -1; least <= 10; least++) {
             int greatest = NONE;
             for (int i = 0; i < TURNS; i++) {
                 greatest = given[i] > least ? i : greatest;
@@ -408,6 +410,43 @@ public final class EdgesMixedTest {
             Check.due("the second item's", s.x.get(0, 0), 18);
             Check.due("of turn 9", s.x.get(0, 23), 19);
             Check.due("of turn 9, though turn 8 wrote it twice", s.x.get(0, 22), 19);
+        }
+    }
+
+    private static void copiedInEachRow() {
+        Check.sentence("Of a COPIED ROW a TURN reads what it wrote there last itself, else what was there ahead of the RUN");
+        for (int r = 0; r < 6; r++) {
+            int kept = (r + 1) % 6;
+            for (int cell : new int[] {0, 23}) {
+                // turn 9 alone writes the cell, ahead of reading it, and by deal 2 ahead of all others
+                Scene s = new Scene().row(r, 1, 24).row(kept, 1, 24).turns(TURNS);
+                s.x.put(r, 1, cell, 50);
+                s.tell("copy", 1, Scene.at(r, cell, 0, 0), Scene.constant(7), Scene.constant(0));
+                s.tell("copy", 1, Scene.at(kept, 0, 1, 0), Scene.at(r, cell, 0, 0), Scene.constant(0));
+                s.row((r + 2) % 6, 4, TURNS, 0, 0, 0, 0, 0, 0, 0, 0, 0, 1);
+                s.x.mask(0, (r + 2) % 6);
+                Check.due("verdict(" + r + ")", s.x.verdict(r), 3);
+                s.x.mixed(1, 2, 0, 0);
+                for (int i = 0; i < TURNS; i++) {
+                    Check.due("get(" + kept + ", " + i + ")", s.x.get(kept, i), i == 9 ? 7 : 50);
+                }
+                Check.due("get(" + r + ", " + cell + ")", s.x.get(r, cell), 7);
+                Check.due("writer(" + r + ", " + cell + ")", s.x.writer(r, cell), 9);
+                Check.due("writer(" + r + ", 11)", s.x.writer(r, 11), NONE);
+            }
+        }
+    }
+
+    private static void gatheredInEachRow() {
+        Check.sentence("What TURNS do to GATHERED ROWS is done to each CELL one behind another");
+        for (int r = 0; r < 6; r++) {
+            Scene s = new Scene().row(r, 1, 24).turns(TURNS);
+            s.tell("sub", 2, Scene.at(r, 23, 0, -1), Scene.at(r, 23, 0, -1), Scene.constant(3));
+            Check.due("verdict(" + r + ")", s.x.verdict(r), 2);
+            s.x.mixed(1, 2, 0, 0);
+            Check.due("get(" + r + ", 23)", s.x.get(r, 23), -30);
+            Check.due("get(" + r + ", 22)", s.x.get(r, 22), -30);
+            Check.due("the greatest", s.x.writer(r, 23), 9);
         }
     }
 

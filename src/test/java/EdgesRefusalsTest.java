@@ -1,5 +1,6 @@
 import java.util.Arrays;
 import java.util.function.ToLongBiFunction;
+import java.util.function.ToLongFunction;
 
 /** What the document says of refusals: each number of each call, the order of refusals, what they change, what a long answers. */
 public final class EdgesRefusalsTest {
@@ -15,7 +16,8 @@ public final class EdgesRefusalsTest {
         orderOfForms();
         orderOfRuns();
         nothingChanged();
-        textUnchanged();
+        fullChangesNothing();
+        findingsChangeTheirNumber();
         notAndFullAreNoFindings();
         leastLong();
         leastInts();
@@ -200,88 +202,103 @@ public final class EdgesRefusalsTest {
         Check.due("same(): not parallel", s.x.same(1, 0, 0, 0), NOT);
     }
 
-    /** Every call that may be refused, refused each way; the arguments are those of a scene like full(). */
-    private static void refuseAll(StrideTurns x) {
-        x.row(6, 1, 1);
-        x.row(0, 5, 1);
-        x.row(0, 1, 25);
-        x.row(0, 1, -1);
-        x.lose(6);
-        x.put(6, 1, 0, 0);
-        x.put(0, 0, 0, 5);
-        x.put(0, 1, 24, 5);
-        x.get(6, 0);
-        x.get(0, 24);
-        x.copy(6, 0, 0, 0, 1);
-        x.copy(0, 0, 1, 1, 24);
-        x.turns(11);
-        x.type(256);
-        x.statement(0);
-        x.statement(1);
-        x.refer(5, 0, 0);
-        x.refer(0, 0, -1);
-        x.place(0, 0, 61, 1, 1);
-        x.place(0, 0, 1, 7, 1);
-        x.place(0, 0, 1, 1, 7);
-        x.guard(0, 7, 0);
-        x.guard(0, 3, 3);
-        x.mask(0, 6);
-        x.info(5, 0);
-        x.reference(0, 3, 0);
-        x.section(15, 0, 0);
-        x.meet(0, 0, 15, 0, 0);
-        x.kinds(5, 0);
-        x.kind(0, 0, 30, 0);
-        x.many(4, 0, 0);
-        x.pieces(0, 6, 0);
-        x.piece(0, 0, 0, 24, 0);
-        x.verdict(6);
-        x.would(0, 4);
-        x.witness(0, 3);
-        x.last(0, 0, 0);
-        x.mixed(5, 0, 0, 0);
-        x.mixed(4, 0, 0, 0);
-        x.same(4, 3, 0, 0);
-        x.same(4, 0, 0, 0);
-        x.faults(3);
-        x.ended(10);
-        x.writer(6, 0);
-        x.writer(0, 24);
-        x.count(9);
+    private interface Act extends ToLongFunction<StrideTurns> {
+    }
+
+    /** Calls that a scene like full() refuses by BAD or NOT: each call that may be refused, by its numbers. */
+    private static final Act[] REFUSED = {
+        x -> x.row(6, 1, 1), x -> x.row(0, 5, 1), x -> x.row(0, 1, 25), x -> x.lose(6), x -> x.put(6, 1, 0, 0),
+        x -> x.put(0, 5, 0, 0), x -> x.get(6, 0), x -> x.copy(6, 0, 0, 0, 1), x -> x.copy(0, 0, 6, 0, 1), x -> x.turns(11),
+        x -> x.turns(-1), x -> x.type(256), x -> x.statement(0), x -> x.statement(6), x -> x.statement(1), x -> x.refer(5, 0, 0),
+        x -> x.refer(0, 3, 0), x -> x.refer(0, 0, -1), x -> x.refer(0, 1, 6), x -> x.place(5, 0, 0, 0, 0),
+        x -> x.place(0, 3, 0, 0, 0), x -> x.place(0, 0, 61, 1, 1), x -> x.place(0, 0, 1, 7, 1), x -> x.place(0, 0, 1, 1, 7),
+        x -> x.guard(5, 1, 0), x -> x.guard(0, 7, 0), x -> x.guard(0, 3, 3), x -> x.mask(5, 0), x -> x.mask(0, 6),
+        x -> x.info(5, 0), x -> x.info(0, 7), x -> x.reference(0, 3, 0), x -> x.section(15, 0, 0), x -> x.section(0, 10, 0),
+        x -> x.meet(0, 0, 15, 0, 0), x -> x.meet(0, 10, 0, 0, 0), x -> x.kinds(5, 0), x -> x.kinds(0, 6), x -> x.kind(0, 0, 30, 0),
+        x -> x.kind(0, 0, 0, 4), x -> x.many(4, 0, 0), x -> x.pieces(0, 6, 0), x -> x.piece(0, 0, 0, 24, 0),
+        x -> x.piece(0, 0, 0, 0, 3), x -> x.verdict(6), x -> x.would(0, 4), x -> x.would(6, 0), x -> x.witness(0, 3),
+        x -> x.witness(6, 0), x -> x.last(0, 0, 0), x -> x.last(1, 0, 24), x -> x.mixed(5, 0, 0, 1), x -> x.mixed(4, 0, 0, 2),
+        x -> x.mixed(4, 0, 0, 0), x -> x.same(4, 3, 0, 1), x -> x.same(4, 0, 64, 1), x -> x.same(4, 0, 0, 0), x -> x.faults(3),
+        x -> x.ended(10), x -> x.writer(6, 0), x -> x.count(9)};
+
+    /** Calls that such a scene, with row 5 lost, refuses by a finding, and the findings' numbers. */
+    private static final int[] NUMBERS = {5, 5, 1, 3, 2, 2, 2, 1, 1, 4, 2, 2, 2, 1, 1, 2};
+    private static final Act[] FOUND = {
+        x -> x.row(0, 1, -1), x -> x.row(5, 4, MIN), x -> x.lose(5), x -> x.put(0, 0, 0, 5), x -> x.put(0, 1, 24, 5),
+        x -> x.put(0, 1, -1, 5), x -> x.get(0, 24), x -> x.get(5, 0), x -> x.copy(0, 0, 5, 0, 1), x -> x.copy(0, 0, 4, 0, 1),
+        x -> x.copy(0, 0, 1, 1, 24), x -> x.copy(0, 25, 1, 0, 0), x -> x.copy(0, 0, 1, 0, -1), x -> x.would(5, 0),
+        x -> x.writer(5, 0), x -> x.writer(0, 24)};
+
+    /** Not parallel, with a run behind it, a text, a row of another form and one that is missing. */
+    private static Scene ready() {
+        Scene s = full();
+        s.row(0, 1, 24, 1, 2, 3).row(4, 2, 24);
+        s.x.lose(5);
+        Check.due("parallel", s.x.count(4), 0);
+        s.x.mixed(3, 2, 33, 1);
+        s.type("tim");
+        return s;
     }
 
     private static void nothingChanged() {
-        Check.sentence("They change nothing (FINDINGS but count() 8).");
-        Scene s = full();
-        s.row(0, 1, 24, 1, 2, 3);
-        Check.due("serial", s.x.count(4), 0);
-        s.x.mixed(3, 2, 33, 1);
-        s.type("tim");
-        long before = s.x.digest();
-        int undone = s.x.count(2);
-        refuseAll(s.x);
-        Check.due("digest()", s.x.digest(), before);
-        Check.due("count(2)", s.x.count(2), undone);
-        Check.due("count(8), of writer() the last", s.x.count(8), 2);
-        s.x.lose(5);
-        s.row(5, 1, 24);
-        Check.due("digest()", s.x.digest(), before);
-        Check.due("what was told last is what was told", s.x.undo(), 3);
+        Check.sentence("They change nothing");
+        for (int n = 0; n < REFUSED.length; n++) {
+            Scene s = ready();
+            s.x.row(0, 1, -1);
+            long before = s.x.digest();
+            int undone = s.x.count(2);
+            long answer = REFUSED[n].applyAsLong(s.x);
+            Check.holds("refusal " + n + " is one", answer == BAD || answer == NOT || answer == MIN || answer == Long.MIN_VALUE + 2);
+            unchanged(s, "refusal " + n, before, undone);
+            Check.due("refusal " + n + " is no finding: count(8)", s.x.count(8), 5);
+        }
     }
 
-    private static void textUnchanged() {
-        Check.sentence("They change nothing");
+    private static void fullChangesNothing() {
+        Check.sentence("NOT -3 (as told), FULL -4, other FINDINGS. They change nothing");
         Scene s = full();
+        s.type("times");
+        long before = s.x.digest();
+        int undone = s.x.count(2);
+        Check.due("type()", s.x.type('s'), FULL);
+        Check.due("statement()", s.x.statement(1), FULL);
+        Check.due("digest()", s.x.digest(), before);
+        Check.due("count(2)", s.x.count(2), undone);
+        Check.due("count(8)", s.x.count(8), 0);
         s.x.undo();
         while (s.x.count(1) == 5) {
             s.x.undo();
         }
-        s.type("tim");
-        refuseAll(s.x);
-        s.type("es");
-        Check.due("the text full", s.x.type('s'), FULL);
-        Check.due("its name", s.x.statement(1), 4);
+        Check.due("the text is as it was", s.x.statement(1), 4);
         Check.due("its operation", s.x.info(4, 0), 12);
+    }
+
+    private static void findingsChangeTheirNumber() {
+        Check.sentence("They change nothing (FINDINGS but count() 8).");
+        for (int n = 0; n < FOUND.length; n++) {
+            Scene s = ready();
+            long before = s.x.digest();
+            int undone = s.x.count(2);
+            Check.due("no finding yet", s.x.count(8), 0);
+            long answer = FOUND[n].applyAsLong(s.x);
+            int due = -10 - NUMBERS[n];
+            Check.due("finding " + n, answer, answer < MIN ? Scene.refused(due) : due);
+            unchanged(s, "finding " + n, before, undone);
+            Check.due("finding " + n + ": count(8)", s.x.count(8), NUMBERS[n]);
+        }
+    }
+
+    private static void unchanged(Scene s, String what, long before, int undone) {
+        Check.due(what + ": digest()", s.x.digest(), before);
+        Check.due(what + ": count(2)", s.x.count(2), undone);
+        s.type("es");
+        Check.due(what + ": the text is full", s.x.type('s'), FULL);
+        s.x.undo();
+        while (s.x.count(1) == 5) {
+            s.x.undo();
+        }
+        Check.due(what + ": it is a name", s.x.statement(1), 4);
+        Check.due(what + ": its operation", s.x.info(4, 0), 12);
     }
 
     private static void notAndFullAreNoFindings() {

@@ -17,6 +17,7 @@ public final class EdgesRowsTest {
         findingSize();
         newObject();
         newRow();
+        newRowAlone();
         newRowRefused();
         lost();
         lostRefused();
@@ -238,6 +239,43 @@ public final class EdgesRowsTest {
             }
         }
         Check.due("one row alone is made", x.count(7), ROWS - 1);
+    }
+
+    private static void newRowAlone() {
+        Check.sentence("A new ROW of a FORM with n CELLS");
+        // the first and last cells of the rows on both sides stay, and who wrote them
+        for (int r = 0; r < ROWS; r++) {
+            for (boolean lost : new boolean[] {false, true}) {
+                Scene s = new Scene().turns(1);
+                for (int all = 0; all < ROWS; all++) {
+                    s.row(all, 1, MOST_CELLS);
+                }
+                for (int k = 0; k < 5; k++) {
+                    s.tell("add", 5, Scene.at(k < r ? k : k + 1, 0, 0, 1), Scene.constant(7), Scene.constant(k));
+                }
+                s.x.run();
+                for (int k = 0; k < 5; k++) {
+                    s.x.place(k, Scene.TARGET, 23, 0, -1);
+                }
+                s.x.put(r, 1, 0, 9);
+                s.x.put(r, 1, 23, 9);
+                s.x.run();
+                if (lost) {
+                    s.x.lose(r);
+                } else {
+                    s.row(r, 1, MOST_CELLS);
+                }
+                for (int k = 0; k < 5; k++) {
+                    int other = k < r ? k : k + 1;
+                    for (int i = 0; i < MOST_CELLS; i++) {
+                        Check.due("get(" + other + ", " + i + ")", s.x.get(other, i), i < 5 || i > 18 ? 7 + k : 0);
+                    }
+                    Check.due("writer(" + other + ", 23)", s.x.writer(other, 23), 0);
+                    Check.due("writer(" + other + ", 19)", s.x.writer(other, 19), 0);
+                    Check.due("writer(" + other + ", 18)", s.x.writer(other, 18), StrideTurns.NONE);
+                }
+            }
+        }
     }
 
     private static void newRowRefused() {

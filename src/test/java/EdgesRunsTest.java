@@ -5,6 +5,7 @@ public final class EdgesRunsTest {
 
     public static void main(String[] args) {
         inOrder();
+        inOrderBehindAMixedRun();
         nothingToRun();
         mostItems();
         itemsWithNoFault();
@@ -16,12 +17,15 @@ public final class EdgesRunsTest {
         writerOfCopied();
         writerOfNewRows();
         latestRun();
+        latestRunOfEachRow();
         latestRunAsItWas();
         beforeAnyRun();
         sameAsInOrder();
         notTheSameCells();
         notTheSameItems();
+        notTheSameItemsAlone();
         notTheSameFaults();
+        notTheSameKindOfFaults();
         sameThoughElse();
         nothingStays();
         sameRefused();
@@ -90,6 +94,36 @@ public final class EdgesRunsTest {
         s.x.guard(1, 3, 2);
         s.x.run();
         cells(s, 0, 9, 9);
+    }
+
+    private static void inOrderBehindAMixedRun() {
+        Check.sentence("A RUN in order does TURNS one behind another");
+        for (int r = 0; r < 6; r++) {
+            Scene s = serialBehindAMixedRun(r);
+            Check.due("same() in order", s.x.same(1, 0, 0, 1), 1);
+            Check.due("same() backwards", s.x.same(1, 2, 0, 1), 0);
+            s = serialBehindAMixedRun(r);
+            Check.due("run()", s.x.run(), TURNS);
+            for (int i = 0; i <= TURNS; i++) {
+                Check.due("get(" + r + ", " + i + ")", s.x.get(r, i), i + 1);
+                Check.due("writer(" + r + ", " + i + ")", s.x.writer(r, i), i - 1);
+            }
+        }
+    }
+
+    /** A loop of turns that read what the turn ahead wrote, told behind a mixed run in which all of them had copies. */
+    private static Scene serialBehindAMixedRun(int r) {
+        Scene s = new Scene().row(r, 1, 24).turns(TURNS);
+        s.tell("copy", 5, Scene.at(r, 0, 0, 1), Scene.constant(7), Scene.constant(0));
+        s.tell("copy", 5, Scene.at(r, 5, 0, 1), Scene.constant(7), Scene.constant(0));
+        Check.due("verdict(" + r + ")", s.x.verdict(r), 3);
+        s.x.mixed(2, 0, 0, 0);
+        for (int told = 0; told < 14; told++) {
+            s.x.undo();
+        }
+        s.x.put(r, 1, 0, 1);
+        s.tell("add", 1, Scene.at(r, 1, 1, 0), Scene.at(r, 0, 1, 0), Scene.constant(1));
+        return s;
     }
 
     private static void nothingToRun() {
@@ -262,6 +296,31 @@ public final class EdgesRunsTest {
         writers(s, 0, NONE, NONE, NONE, NONE);
     }
 
+    private static void latestRunOfEachRow() {
+        Check.sentence("WRITER of a CELL: the TURN that wrote it");
+        Scene s = new Scene().turns(TURNS);
+        for (int r = 0; r < 6; r++) {
+            s.row(r, r < 4 ? r : 1, 24);
+        }
+        for (int k = 0; k < 5; k++) {
+            s.tell("copy", 1, Scene.at(k, 23, 0, 0), Scene.constant(0), Scene.constant(0));
+        }
+        s.x.run();
+        for (int r = 0; r < 5; r++) {
+            Check.due("writer(" + r + ", 23)", s.x.writer(r, 23), 9);
+            Check.due("writer(" + r + ", 22)", s.x.writer(r, 22), NONE);
+        }
+        s.x.refer(0, Scene.TARGET, 5);
+        s.x.run();
+        Check.due("writer(5, 23)", s.x.writer(5, 23), 9);
+        Check.due("writer(0, 23)", s.x.writer(0, 23), NONE);
+        s.turns(0);
+        s.x.run();
+        for (int r = 0; r < 6; r++) {
+            Check.due("writer(" + r + ", 23)", s.x.writer(r, 23), NONE);
+        }
+    }
+
     private static void latestRunAsItWas() {
         Check.sentence("Of the latest RUN, as it was");
         Scene s = new Scene().row(0, 1, 3).turns(5);
@@ -344,7 +403,7 @@ public final class EdgesRunsTest {
     }
 
     private static void notTheSameItems() {
-        Check.sentence("with as many ITEMS");
+        Check.sentence("a RUN in order, with as many ITEMS");
         // turn 0 makes the sum of turn 1 over, behind which that has one item less to do
         Scene s = new Scene().row(0, 1, 1).row(1, 1, 1, 1).row(2, 1, 1, MAX).turns(2);
         s.tell("copy", 1, Scene.at(0, 0, 0, 0), Scene.at(2, 0, 0, 0), Scene.constant(0));
@@ -359,6 +418,42 @@ public final class EdgesRunsTest {
         Check.due("mixed()", s.x.mixed(1, 2, 0, 1), 2);
         cells(s, 0, MAX);
         cells(s, 1, 1);
+    }
+
+    /** Turns 0 and 1, of which the first makes the sum of the second over; behind the sums one of them copies to a target. */
+    private static Scene crossing(int turn, int[] target) {
+        Scene s = new Scene().row(0, 1, 2).row(1, 1, 3, 1, 1).row(2, 1, 1, MAX).turns(2);
+        s.tell("copy", 1, Scene.at(0, 0, 0, 0), Scene.at(2, 0, 0, 0), Scene.constant(0));
+        s.tell("copy", 1, Scene.at(0, 1, 0, 0), Scene.at(2, 0, 0, 0), Scene.constant(0));
+        s.tell("sure", 1, Scene.at(1, 0, 0, 0), Scene.at(0, 0, 0, 0), Scene.constant(1));
+        s.tell("sure", 1, Scene.at(1, 1, 0, 0), Scene.at(0, 1, 0, 0), Scene.constant(1));
+        s.tell("copy", 1, target, Scene.constant(0), Scene.constant(0));
+        int[] turns = {0, 1, 1, 0, turn};
+        for (int k = 0; k < 5; k++) {
+            s.x.guard(k, 2, turns[k]);
+        }
+        return s;
+    }
+
+    /** In order turn 1 is over, backwards turn 0, and all cells come to be the same. */
+    private static void crossed(Scene s, int items, int itemsBackwards, int gone, int outside) {
+        Check.due("same() backwards", s.x.same(1, 2, 0, 1), 0);
+        Check.due("same() in order", s.x.same(1, 0, 0, 1), 1);
+        Check.due("run()", s.x.run(), items);
+        faults(s, 0, 0, 1);
+        cells(s, 0, MAX, MAX);
+        cells(s, 1, 1, 1, 0);
+        s.row(0, 1, 2);
+        Check.due("mixed()", s.x.mixed(1, 2, 0, 1), itemsBackwards);
+        faults(s, gone, outside, 1);
+        cells(s, 0, MAX, MAX);
+        cells(s, 1, 1, 1, 0);
+    }
+
+    private static void notTheSameItemsAlone() {
+        Check.sentence("with as many ITEMS");
+        // turn 0 has one item more behind its sum
+        crossed(crossing(0, Scene.at(1, 2, 0, 0)), 4, 3, 0, 0);
     }
 
     private static void notTheSameFaults() {
@@ -386,6 +481,13 @@ public final class EdgesRunsTest {
         faults(s, 0, 0, 1);
         cells(s, 0, MAX, MAX);
         cells(s, 1, 1, 1, 0);
+    }
+
+    private static void notTheSameKindOfFaults() {
+        Check.sentence("TURNS ended by each FAULT: 1, 0.");
+        // turn 1 has an item behind its sum that is gone, or outside: as many items both ways
+        crossed(crossing(1, Scene.at(5, 0, 0, 0)), 3, 3, 1, 0);
+        crossed(crossing(1, Scene.at(0, 2, 0, 0)), 3, 3, 0, 1);
     }
 
     private static void sameThoughElse() {
@@ -550,14 +652,35 @@ public final class EdgesRunsTest {
         }
     }
 
+    /** Makes a scene anew, as often as an object has been asked enough. */
+    private interface Maker {
+        Scene make();
+    }
+
     /** The digest by what the other calls tell, in the order in which the document names them. */
-    private static long digestOf(StrideTurns x) {
+    private static long digestOf(Maker maker) {
+        long h = withStatements(maker.make().x);
+        h = withSets(h, maker.make().x);
+        for (int r = 0; r < 6; r++) {
+            h = withCells(h, maker.make().x, r);
+        }
+        StrideTurns x = maker.make().x;
+        for (int kind = 0; kind < 3; kind++) {
+            h = 31 * h + x.faults(kind);
+        }
+        for (int p = 0; p <= 9; p++) {
+            h = 31 * h + x.ended(p);
+        }
+        return h;
+    }
+
+    private static long withStatements(StrideTurns x) {
         long h = 17;
         for (int what = 0; what <= 7; what++) {
             h = 31 * h + x.count(what);
         }
-        int turns = x.count(0);
-        for (int k = 0; k < x.count(1); k++) {
+        int statements = x.count(1);
+        for (int k = 0; k < statements; k++) {
             for (int what = 0; what <= 6; what++) {
                 h = 31 * h + x.info(k, what);
             }
@@ -565,7 +688,7 @@ public final class EdgesRunsTest {
                 for (int what = 0; what <= 3; what++) {
                     h = 31 * h + x.reference(k, which, what);
                 }
-                for (int part = 0; part < 3 && turns > 0 && x.reference(k, which, 0) != NONE; part++) {
+                for (int part = 0; part < 3 && x.count(0) > 0 && x.reference(k, which, 0) != NONE; part++) {
                     h = 31 * h + x.section(3 * k + which, 0, part);
                 }
             }
@@ -573,6 +696,12 @@ public final class EdgesRunsTest {
                 h = 31 * h + x.kinds(k, r);
             }
         }
+        return h;
+    }
+
+    private static long withSets(long before, StrideTurns x) {
+        long h = before;
+        int turns = x.count(0);
         for (int r = 0; r < 6; r++) {
             h = 31 * h + x.verdict(r);
             for (int part = 0; part < 3; part++) {
@@ -586,38 +715,36 @@ public final class EdgesRunsTest {
                 }
             }
         }
-        for (int r = 0; r < 6; r++) {
-            for (int i = 0; i < 24; i++) {
-                long cell = x.get(r, i);
-                if (cell <= Long.MIN_VALUE + 12 && cell >= Long.MIN_VALUE + 11) {
-                    break;
-                }
-                h = 31 * (31 * (31 * (31 * h + cell) + x.writer(r, i)) + x.last(1, r, i)) + x.last(2, r, i);
+        return h;
+    }
+
+    private static long withCells(long before, StrideTurns x, int r) {
+        long h = before;
+        for (int i = 0; i < 24; i++) {
+            long cell = x.get(r, i);
+            if (cell == Scene.refused(Scene.NULL) || cell == Scene.refused(Scene.INDEX)) {
+                return h;
             }
-        }
-        for (int kind = 0; kind < 3; kind++) {
-            h = 31 * h + x.faults(kind);
-        }
-        for (int p = 0; p <= 9; p++) {
-            h = 31 * h + x.ended(p);
+            h = 31 * (31 * (31 * (31 * h + cell) + x.writer(r, i)) + x.last(1, r, i)) + x.last(2, r, i);
         }
         return h;
     }
 
-    private static void digested(String what, Scene s) {
-        long told = s.x.digest();
-        Check.due("digest() " + what, told, digestOf(s.x));
+    private static void digested(String what, Maker maker) {
+        Check.due("digest() " + what, maker.make().x.digest(), digestOf(maker));
     }
 
     private static void digestOfNothing() {
         Check.sentence("h is 17; h becomes 31 h and each of");
-        digested("of a new object", new Scene());
-        digested("of a row of no cells", new Scene().row(5, 3, 0));
-        digested("of rows alone", new Scene().row(0, 0, 24).row(5, 4, 24));
-        digested("of turns alone", new Scene().turns(TURNS));
-        Scene s = new Scene();
-        s.type("times");
-        digested("of a text alone", s);
+        digested("of a new object", Scene::new);
+        digested("of a row of no cells", () -> new Scene().row(5, 3, 0));
+        digested("of rows alone", () -> new Scene().row(0, 0, 24).row(5, 4, 24));
+        digested("of turns alone", () -> new Scene().turns(TURNS));
+        digested("of a text alone", () -> {
+            Scene s = new Scene();
+            s.type("times");
+            return s;
+        });
     }
 
     /** All of six rows, five statements and ten turns. */
@@ -636,46 +763,59 @@ public final class EdgesRunsTest {
 
     private static void digestOfMuch() {
         Check.sentence("(of each thing all that is told of it, then of the next one)");
-        Scene s = much();
-        digested("ahead of a run", s);
-        s = much();
-        s.x.run();
-        digested("behind a run", s);
-        s = much();
-        s.x.mixed(3, 2, 17, 1);
-        digested("behind a mixed run", s);
-        s = much();
-        s.x.lose(2);
-        s.x.run();
-        digested("with a row lost", s);
+        digested("ahead of a run", EdgesRunsTest::much);
+        digested("behind a run", () -> {
+            Scene s = much();
+            s.x.run();
+            return s;
+        });
+        digested("behind a mixed run", () -> {
+            Scene s = much();
+            s.x.mixed(3, 2, 17, 1);
+            return s;
+        });
+        digested("with a row lost", () -> {
+            Scene s = much();
+            s.x.lose(2);
+            s.x.run();
+            return s;
+        });
+    }
+
+    private static Scene ofReferences(int turns, int kinds) {
+        Scene s = new Scene().turns(turns);
+        s.state(kinds % 2 == 0 ? "copy" : "add", 3);
+        s.x.place(0, kinds % 3, 11, 1, -2);
+        for (int of = 1; of < 3; of++) {
+            if ((kinds >> of & 1) == 1) {
+                s.x.refer(0, of, 3);
+            }
+        }
+        return s;
     }
 
     private static void digestWithoutTurns() {
         Check.sentence("and, if it is to a ROW and there are TURNS, section(it, 0, 0 to 2)");
-        for (int turns = 0; turns <= 2; turns++) {
-            for (int which = 0; which < 8; which++) {
-                Scene s = new Scene().turns(turns);
-                s.state(which % 2 == 0 ? "copy" : "add", 3);
-                s.x.place(0, which % 3, 11, 1, -2);
-                for (int of = 1; of < 3; of++) {
-                    if ((which >> of & 1) == 1) {
-                        s.x.refer(0, of, 3);
-                    }
-                }
-                digested("of " + turns + " turns", s);
-            }
+        for (int n = 0; n < 24; n++) {
+            int turns = n % 3;
+            int kinds = n / 3;
+            digested("of " + turns + " turns", () -> ofReferences(turns, kinds));
         }
+    }
+
+    /** Bits of doubles below 0, of floats below 0, and ints at both ends, each in another place. */
+    private static Scene atBothEnds() {
+        return new Scene().row(0, 3, 3, -1, Integer.MIN_VALUE, MAX).row(1, 2, 3, -1, Integer.MIN_VALUE, MAX)
+                .row(2, 1, 2, Integer.MIN_VALUE, MAX).row(3, 0, 2, 32768, 32767).row(5, 4, 2, 1, 0);
     }
 
     private static void digestWraps() {
         Check.sentence("as longs that wrap");
-        // bits of doubles below 0, of floats below 0, and ints at both ends, each in another place
-        Scene s = new Scene().row(0, 3, 3, -1, Integer.MIN_VALUE, MAX).row(1, 2, 3, -1, Integer.MIN_VALUE, MAX)
-                .row(2, 1, 2, Integer.MIN_VALUE, MAX).row(3, 0, 2, 32768, 32767).row(5, 4, 2, 1, 0);
-        digested("of cells at both ends", s);
+        digested("of cells at both ends", EdgesRunsTest::atBothEnds);
+        Scene s = atBothEnds();
         long before = s.x.digest();
         s.x.put(0, 3, 0, 1);
-        // the sign alone: the highest bit, behind which there are an odd number of odd factors
+        // the sign alone is the highest bit, and stays it, as often as it is taken 31 times
         Check.due("the highest bit alone", s.x.digest(), before - Long.MIN_VALUE);
     }
 

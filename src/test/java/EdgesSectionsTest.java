@@ -95,6 +95,17 @@ public final class EdgesSectionsTest {
             s.x.refer(0, e, StrideTurns.NONE);
             Check.due("a constant again", s.x.section(e, 0, 0), MIN);
         }
+        // of each statement its own: left of the even ones, right of the odd ones is a constant
+        for (int k = 1; k < 5; k++) {
+            s.state("add", 1);
+        }
+        for (int k = 0; k < 5; k++) {
+            s.x.refer(k, k % 2 == 0 ? Scene.RIGHT : Scene.LEFT, k);
+        }
+        for (int e = 0; e < 15; e++) {
+            boolean constant = e % 3 == (e / 3 % 2 == 0 ? Scene.LEFT : Scene.RIGHT);
+            Check.due("section(" + e + ", 0, 0)", s.x.section(e, 0, 0), constant ? MIN : 0);
+        }
     }
 
     private static void ofEachReference() {
@@ -151,6 +162,13 @@ public final class EdgesSectionsTest {
         met(two(10, 6, 13, 6), 0, 1, 0, 5);
         met(two(10, 0, 11, 0), 0, 1, 0, 1);
         met(two(-10, 1, -5, 1), 0, 1, 0, 5);
+        // whatever met ahead of it
+        Scene s = two(10, 2, 14, 2);
+        met(s, 14, 2, 3, 2);
+        s.x.place(0, Scene.LEFT, 11, 0, 2);
+        met(s, 0, 1, 0, 5);
+        s.x.place(0, Scene.LEFT, 18, 0, 2);
+        met(s, 18, 1, 1, 4);
     }
 
     private static void oneMet() {

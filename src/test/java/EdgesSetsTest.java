@@ -12,6 +12,7 @@ public final class EdgesSetsTest {
         itemsAheadOfAFault();
         faultOfAnItem();
         overIsNotKnownAhead();
+        knownAnew();
         faultOfOneTurn();
         read();
         written();
@@ -127,6 +128,37 @@ public final class EdgesSetsTest {
         Check.due("it is over", s.x.faults(2), 1);
         cells(s, WRITTEN, 1, 0, 0, 1, 5);
         cells(s, READ, 0, 0, 0, 3);
+    }
+
+    private static void knownAnew() {
+        Check.sentence("as is known ahead");
+        Scene s = new Scene().row(0, 1, 9).row(5, 4, 3, 1, 1, 1).turns(3);
+        s.tell("copy", 1, Scene.at(0, 0, 2, 0), Scene.constant(0), Scene.constant(0));
+        cells(s, WRITTEN, 0, NONE, 0, 2, 4);
+        s.x.mask(0, 5);
+        cells(s, WRITTEN, 0, NONE, 0, 2, 4);
+        s.x.put(5, 4, 1, 0);
+        cells(s, WRITTEN, 0, NONE, 0, 4);
+        s.x.copy(5, 1, 5, 2, 1);
+        cells(s, WRITTEN, 0, NONE, 0);
+        s.x.undo();
+        cells(s, WRITTEN, 0, NONE, 0, 2, 4);
+        s.x.guard(0, 2, 1);
+        cells(s, WRITTEN, 0, NONE, 2);
+        s.x.place(0, 0, 1, 2, 0);
+        cells(s, WRITTEN, 0, NONE, 3);
+        s.x.turns(4);
+        cells(s, WRITTEN, 0, NONE, 3, 7);
+        s.state("copy", 1);
+        cells(s, WRITTEN, 0, NONE, 0, 3, 7);
+        s.x.refer(0, 0, 1);
+        cells(s, WRITTEN, 0, NONE, 0);
+        s.row(1, 1, 9);
+        cells(s, WRITTEN, 0, NONE, 0);
+        cells(s, WRITTEN, 1, NONE, 3, 7);
+        s.x.lose(1);
+        cells(s, WRITTEN, 0, NONE, 0);
+        cells(s, WRITTEN, 1, NONE);
     }
 
     private static void faultOfOneTurn() {
@@ -275,6 +307,15 @@ public final class EdgesSetsTest {
             s.x.place(0, Scene.LEFT, 10 + step, 0, step);
             Check.due("ahead of their writing", s.x.many(EXPOSED, 0, 0), step == 0 ? 1 : 4);
         }
+        // all that was written ahead, not the latest alone
+        Scene s = new Scene().row(0, 1, 24).row(1, 1, 24).turns(1);
+        s.tell("copy", 5, Scene.at(0, 0, 0, 1), Scene.constant(0), Scene.constant(0));
+        s.tell("copy", 5, Scene.at(1, 0, 0, 1), Scene.at(0, 0, 0, 2), Scene.constant(0));
+        s.tell("add", 1, Scene.at(0, 9, 0, 0), Scene.at(1, 0, 0, 0), Scene.at(1, 4, 0, 0));
+        cells(s, READ, 0, 0, 0, 2, 4, 6, 8);
+        cells(s, EXPOSED, 0, 0, 6, 8);
+        cells(s, READ, 1, 0, 0, 4);
+        cells(s, EXPOSED, 1, 0);
     }
 
     private static void exposedBehindAPick() {

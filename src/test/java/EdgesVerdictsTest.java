@@ -35,6 +35,7 @@ public final class EdgesVerdictsTest {
         wouldOfAForm();
         wouldRefused();
         noWitness();
+        witnessOfEachRow();
         leastTurn();
         leastCell();
         lastOfEarlierTurns();
@@ -472,7 +473,7 @@ public final class EdgesVerdictsTest {
         witness(two(0, 8, true, 1, 8), 0, 0, 1, 8);
     }
 
-    /** Row 0's cells, written in turns by the masks in rows 4 and 5; then read in turns by that in row 3. */
+    /** Row 0's cells, written in turns by the masks in rows 3 and 4; then read in turns by that in row 5. */
     private static Scene three(int cell, int[] turns, int otherCell, int[] otherTurns, int[] readers, int... read) {
         Scene s = new Scene().row(0, 1, 24).row(1, 1, 24).turns(TURNS);
         s.tell("copy", 1, Scene.at(0, cell, 0, 0), Scene.constant(1), Scene.constant(0));
@@ -489,6 +490,20 @@ public final class EdgesVerdictsTest {
         return s;
     }
 
+    /** A row that a turn reads and writes itself, and reads where an earlier turn wrote. */
+    private static void witnessOfEachRow() {
+        Check.sentence("WITNESS of a ROW: the least TURN with an EXPOSED CELL that is WRITTEN in an earlier one");
+        for (int r = 0; r < 6; r++) {
+            Scene s = new Scene().row(r, 1, 24).turns(3);
+            s.tell("add", 1, Scene.at(r, 4, 0, 0), Scene.at(r, 4, 0, 0), Scene.at(r, 6, 1, 0));
+            s.tell("copy", 1, Scene.at(r, 7, 0, 0), Scene.constant(0), Scene.constant(0));
+            s.x.guard(0, 3, 1);
+            // turn 1 exposes 4, which it writes itself alone, and 7, which turn 0 writes
+            witness(s, r, 0, 1, 7);
+            witness(s, (r + 1) % 6, NONE, NONE, NONE);
+        }
+    }
+
     private static void leastTurn() {
         Check.sentence("the least TURN with an EXPOSED CELL that is WRITTEN in an earlier one");
         // cell 9 is written by turn 0, cell 3 by turn 5; turn 2 is the first to read both
@@ -503,6 +518,9 @@ public final class EdgesVerdictsTest {
         witness(three(9, new int[] {6}, 3, new int[] {1}, new int[] {7, 8}, 9, 3), 0, 1, 7, 3);
         witness(three(23, new int[] {0}, 0, new int[] {0}, new int[] {9}, 23, 23), 0, 0, 9, 23);
         witness(three(4, new int[] {0}, 3, new int[] {0}, new int[] {9}, 3, 4), 0, 0, 9, 3);
+        // cell 3 is read, but written by none; cell 0, too
+        witness(three(9, new int[] {6}, 2, new int[] {1}, new int[] {7, 8}, 9, 3), 0, 6, 7, 9);
+        witness(three(5, new int[] {6}, 2, new int[] {1}, new int[] {7, 8}, 5, 0), 0, 6, 7, 5);
         // cell 3 is written by the reading turn itself, ahead of the reading
         witness(three(9, new int[] {6}, 3, new int[] {1, 7}, new int[] {7, 8}, 9, 3), 0, 6, 7, 9);
     }
@@ -512,6 +530,19 @@ public final class EdgesVerdictsTest {
         witness(three(9, new int[] {0, 1, 5, 8, 9}, 3, new int[] {7}, new int[] {6, 8}, 9), 0, 5, 6, 9);
         witness(three(9, new int[] {0, 1, 7, 8}, 3, new int[] {7}, new int[] {9}, 9), 0, 8, 9, 9);
         witness(three(9, new int[] {0, 9}, 3, new int[] {7}, new int[] {8}, 9), 0, 0, 8, 9);
+        // by a pick, too
+        Scene s = new Scene().row(3, 1, 24).turns(TURNS);
+        s.tell("copy", 1, Scene.at(3, 9, 0, 0), Scene.constant(1), Scene.constant(0));
+        s.tell("pick", 1, Scene.at(3, 9, 0, 0), Scene.constant(1), Scene.constant(0));
+        s.tell("pick", 1, Scene.at(3, 8, 0, 0), Scene.constant(1), Scene.constant(0));
+        s.tell("add", 1, Scene.at(3, 7, 0, 0), Scene.at(3, 9, 0, 0), Scene.at(3, 7, 0, 0));
+        s.x.guard(0, 6, 1);
+        s.x.guard(1, 6, 3);
+        s.x.guard(2, 6, 0);
+        s.x.guard(3, 6, 5);
+        witness(s, 3, 3, 5, 9);
+        s.x.place(3, Scene.RIGHT, 8, 0, 0);
+        witness(s, 3, 0, 5, 8);
     }
 
     private static void witnessRefused() {

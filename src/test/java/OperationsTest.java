@@ -228,13 +228,13 @@ public final class OperationsTest {
 
     /** A product that goes on below the least double, and is cast to floats on its way. */
     private static void tinyDoubles() {
-        Scene s = new Scene().row(0, 3, 1, 5).row(1, 3, 1, -3).row(2, 2, 1).row(3, 3, 1).turns(3);
+        Scene s = new Scene().row(0, 3, 1, 5).row(1, 3, 1, -3).row(2, 2, 1).row(3, 3, 1).turns(9);
         s.tell("mul", 1, Scene.at(0, 0, 0, 0), Scene.at(0, 0, 0, 0), Scene.at(1, 0, 0, 0));
         s.tell("copy", 1, Scene.at(2, 0, 0, 0), Scene.at(0, 0, 0, 0), Scene.constant(0));
         s.tell("rem", 1, Scene.at(3, 0, 0, 0), Scene.constant(43), Scene.at(0, 0, 0, 0));
         double a = 5 / 8d;
-        for (int run = 0; run < 270; run++) {
-            for (int turn = 0; turn < 3; turn++) {
+        for (int run = 0; run < 90; run++) {
+            for (int turn = 0; turn < 9; turn++) {
                 a = a * -0.375 % 1024 + 0d;
             }
             s.x.run();
@@ -251,7 +251,7 @@ public final class OperationsTest {
         s.tell("rem", 1, Scene.at(2, 0, 0, 0), Scene.constant(-59), Scene.at(0, 0, 0, 0));
         s.tell("add", 1, Scene.at(3, 0, 0, 0), Scene.at(0, 0, 0, 0), Scene.at(2, 0, 0, 0));
         float a = 7 / 8f;
-        for (int run = 0; run < 120; run++) {
+        for (int run = 0; run < 110; run++) {
             a = a * -0.375f % 1024 + 0f;
             float rest = a == 0 ? 0 : -59 % a + 0f;
             s.x.run();

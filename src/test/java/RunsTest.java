@@ -246,8 +246,8 @@ public final class RunsTest {
     }
 
     private static void seeds() {
-        Scene s = singles(8);
         for (int seed = 0; seed < 64; seed++) {
+            Scene s = singles(8);
             Check.due(30, "mixed(3, 2, " + seed + ", 0)", s.x.mixed(3, 2, seed, 0), 8);
             int[] next = {6, 7, 5};
             int state = seed;

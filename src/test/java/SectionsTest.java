@@ -77,10 +77,10 @@ public final class SectionsTest {
 
     private static void meetAll() {
         // every two sections that start near each other, against places looked at one by one
-        Scene s = new Scene().turns(1);
-        s.tell("add", 4, Scene.at(0, 0, 0, 0), Scene.at(1, 0, 0, 0), Scene.constant(0));
         for (int a = -6; a <= 6; a++) {
             for (int b = -6; b <= 6; b++) {
+                Scene s = new Scene().turns(1);
+                s.tell("add", 4, Scene.at(0, 0, 0, 0), Scene.at(1, 0, 0, 0), Scene.constant(0));
                 for (int from = -5; from <= 5; from++) {
                     s.x.place(0, 0, 0, 0, a);
                     s.x.place(0, 1, from, 0, b);

@@ -10,6 +10,8 @@ public final class WildTest {
     private static final int[] EDGES = {Integer.MIN_VALUE, Integer.MIN_VALUE + 1, -1000, -61, -60, -25, -7, -6, -5, -4, -3,
         -2, -1, 0, 1, 2, 3, 4, 5, 6, 7, 8, 9, 10, 11, 14, 15, 22, 23, 24, 25, 59, 60, 61, 63, 64, 255, 256, 1000,
         1 << 20, 1 << 30, Integer.MAX_VALUE - 1, Integer.MAX_VALUE};
+    /** Five calls each time, and an object is used for 512. */
+    private static final int TIMES = 75;
     private static final int LEAST_LONG_REFUSAL = 2, MOST_LONG_REFUSAL = 15;
 
     private final Random random;
@@ -26,7 +28,7 @@ public final class WildTest {
     }
 
     public static void main(String[] args) throws IllegalAccessException {
-        long runs = args.length > 0 ? Long.parseLong(args[0]) : 60;
+        long runs = args.length > 0 ? Long.parseLong(args[0]) : 160;
         for (long seed = 1; seed <= runs; seed++) {
             new WildTest(seed).play(seed);
         }
@@ -35,7 +37,7 @@ public final class WildTest {
 
     private void play(long seed) throws IllegalAccessException {
         StrideTurns x = furnished(seed);
-        for (int call = 0; call < 200; call++) {
+        for (int time = 0; time < TIMES; time++) {
             Method m = calls.get(random.nextInt(calls.size()));
             Object[] arguments = new Object[m.getParameterCount()];
             for (int a = 0; a < arguments.length; a++) {
