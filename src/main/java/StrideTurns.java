@@ -960,10 +960,10 @@ public final class StrideTurns {
         /** Becomes the first piece of a set that is not empty: the cells that are left. */
         int takePiece(int cells) {
             first = leastCell(cells);
+            int behind = cells & ~(1 << first);
+            stride = behind == 0 ? 1 : leastCell(behind) - first;
             length = 0;
-            int left = cells & ~(1 << first);
-            stride = left == 0 ? 1 : leastCell(left) - first;
-            left = cells;
+            int left = cells;
             int place = first;
             for (int n = 0; n < CELLS && place < CELLS && (left >> place & 1) != 0; n++) {
                 left &= ~(1 << place);
